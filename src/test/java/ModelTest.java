@@ -72,7 +72,7 @@ public final class ModelTest {
         }
     }
 
-    // Locks that are free or held by none are of little use, so a thread mostly locks, works, unlocks.
+    // An unlock without its lock stops a thread for good, so most unlocks are made to follow one.
     private static void appendOperation(RaceRecorder r, Model m, List<String> calls, int t) {
         List<int[]> program = m.programs.get(t);
         int kind = pick(5);
