@@ -7,7 +7,8 @@ import java.util.Arrays;
 import java.util.Set;
 import java.util.TreeSet;
 
-// The class has the document's public members and no other that can be seen from outside.
+// The class has the document's public members and no other that can be seen from outside; all members
+// keep to the rules of LANGUAGE.md on names and types.
 public final class FaceTest {
     private static int wrong = 0;
 
@@ -28,6 +29,9 @@ public final class FaceTest {
         for (Constructor<?> c : face.getDeclaredConstructors()) {
             due("the constructor", c.toString(), "public RaceRecorder()");
         }
+        due("the names both public and private", namesOfBoth(face), Set.of());
+        due("the members of other types", membersOfOtherTypes(face), Set.of());
+        due("the static fields that are not constants of int or long", staticsOfOtherForm(face), Set.of());
         System.out.println(wrong == 0 ? "the face is as due" : wrong + " things are not as due");
         if (wrong != 0) {
             System.exit(1);
@@ -76,6 +80,57 @@ public final class FaceTest {
                 "int races()", "int firstRace()", "int guard(int)", "boolean crossed()",
                 "int outcomes()", "int deadlocks()", "int greatest(int)", "int ahead()")) {
             all.add("public " + method.replace(" ", " RaceRecorder."));
+        }
+        return all;
+    }
+
+    // LANGUAGE.md, rule 1: "No private method bears the name of a public one."
+    private static Set<String> namesOfBoth(Class<?> face) {
+        Set<String> seen = new TreeSet<>();
+        Set<String> hidden = new TreeSet<>();
+        for (Method method : face.getDeclaredMethods()) {
+            (canBeSeen(method) ? seen : hidden).add(method.getName());
+        }
+        seen.retainAll(hidden);
+        return seen;
+    }
+
+    // LANGUAGE.md, rules 2 and 10: whole numbers, booleans and one-dimensional arrays of these; an array
+    // is never answered; at most seven parameters.
+    private static Set<String> membersOfOtherTypes(Class<?> face) {
+        Set<String> all = new TreeSet<>();
+        for (Field field : face.getDeclaredFields()) {
+            if (!isAllowed(field.getType())) {
+                all.add(field.toString());
+            }
+        }
+        for (Method method : face.getDeclaredMethods()) {
+            boolean answersWell = method.getReturnType() == void.class || isPlain(method.getReturnType());
+            boolean takesWell = Arrays.stream(method.getParameterTypes()).allMatch(FaceTest::isAllowed);
+            if (!answersWell || !takesWell || method.getParameterCount() > 7) {
+                all.add(method.toString());
+            }
+        }
+        return all;
+    }
+
+    private static boolean isAllowed(Class<?> type) {
+        return isPlain(type.isArray() ? type.getComponentType() : type);
+    }
+
+    private static boolean isPlain(Class<?> type) {
+        return type.isPrimitive() && type != float.class && type != double.class;
+    }
+
+    // LANGUAGE.md, rule 5: "Static fields are compile-time constants of int or long alone."
+    private static Set<String> staticsOfOtherForm(Class<?> face) {
+        Set<String> all = new TreeSet<>();
+        for (Field field : face.getDeclaredFields()) {
+            boolean isNumber = field.getType() == int.class || field.getType() == long.class;
+            boolean isFinal = Modifier.isFinal(field.getModifiers());
+            if (Modifier.isStatic(field.getModifiers()) && !(isNumber && isFinal)) {
+                all.add(field.toString());
+            }
         }
         return all;
     }
